@@ -212,11 +212,11 @@ public final class ShoutGroups {
         }
         int bestNames = 0;
         int bestSize = 0;
-        int fewest = Integer.MAX_VALUE;
+        int fewest = NONE;
         for (int names = LOWEST[NAMES]; names <= HIGHEST[NAMES]; names++) {
             for (int size = LOWEST[SIZE]; size <= HIGHEST[SIZE]; size++) {
                 int messages = trial.messagesOfAccount(library, names, size);
-                if (messages < fewest) {
+                if (fewest == NONE || messages < fewest) {
                     bestNames = names;
                     bestSize = size;
                     fewest = messages;
@@ -494,8 +494,18 @@ public final class ShoutGroups {
             return kinds.at(note) == OWNED && isIn(reader, names.at(note));
         }
 
-        boolean calls(int note, int reader, int size) {
-            return isIn(kinds.at(note) == GROUPED ? groupOf(reader, size) : reader, names.at(note));
+        int called(int note, int size) {
+            int named = names.at(note);
+            if (kinds.at(note) != GROUPED) {
+                return named;
+            }
+            int called = 0;
+            for (int reader = 0; reader < READERS; reader++) {
+                if (isIn(groupOf(reader, size), named)) {
+                    called |= only(reader);
+                }
+            }
+            return called;
         }
 
         void become(int note, int kind, int named) {
@@ -507,9 +517,7 @@ public final class ShoutGroups {
             int named = names.at(note);
             if (kinds.at(note) == GROUPED) {
                 names.write(note, named | only(groupOf(reader, size)));
-            } else if (isIn(reader, named)) {
-                return;
-            } else if (Integer.bitCount(named) < most) {
+            } else if (isIn(reader, named) || Integer.bitCount(named) < most) {
                 become(note, NAMED, named | only(reader));
             } else {
                 become(note, GROUPED, groupsOf(named | only(reader), size));
@@ -766,22 +774,13 @@ public final class ShoutGroups {
         }
 
         int called(int note) {
-            if (cards.kinds.at(note) != GROUPED) {
-                return cards.names.at(note);
-            }
-            int called = 0;
-            for (int reader = 0; reader < READERS; reader++) {
-                if (cards.calls(note, reader, settings.at(SIZE))) {
-                    called |= only(reader);
-                }
-            }
-            return called;
+            return cards.called(note, settings.at(SIZE));
         }
 
         int notesThatCall(int reader) {
             int notes = 0;
             for (int note = 0; note < NOTES; note++) {
-                if (cards.calls(note, reader, settings.at(SIZE))) {
+                if (isIn(reader, called(note))) {
                     notes |= only(note);
                 }
             }
@@ -789,11 +788,12 @@ public final class ShoutGroups {
         }
 
         int valueToRead(int note) {
-            if (cards.kinds.at(note) != OWNED) {
-                return values.at(note);
+            for (int reader = 0; reader < READERS; reader++) {
+                if (cards.isOwnedBy(note, reader)) {
+                    return shelves.valueAt(reader, shelves.placeOf(reader, note));
+                }
             }
-            int owner = Integer.numberOfTrailingZeros(cards.names.at(note));
-            return shelves.valueAt(owner, shelves.placeOf(owner, note));
+            return values.at(note);
         }
 
         int messagesToRead(int reader, int note) {
