@@ -7,7 +7,10 @@ public final class AccountTest {
         roomAndForgetAsNow();
         leftOut();
         best();
+        fourNames();
         latestSixty();
+        latestSixtyInOrder();
+        oneAfterTheOther();
         startedAnew();
         ordersAreInIt();
         nothingChanges();
@@ -70,6 +73,54 @@ public final class AccountTest {
         check.due("SIZE", x.best(1), 1);
         check.due("messages", x.best(2), 2 + 3 + 2);
         check.due("groups of one", x.accountWith(0, 1), 2 + 3 + 3);
+    }
+
+    private static void fourNames() {
+        ShoutGroups x = new ShoutGroups();
+        x.set(ShoutGroups.FORGET, 1);
+        x.set(ShoutGroups.ROOM, 1);
+        for (int reader = 0; reader < 4; reader++) {
+            x.read(reader, 0);
+        }
+        for (int reader = 0; reader < 4; reader++) {
+            x.read(reader, 1 + reader);
+        }
+        x.change(5, 0, 1);
+        check.due("four can be named, and all four are forgotten", x.best(0), 4);
+        check.due("messages", x.best(2), 4 * 2 + 4 * 3 + 2);
+        check.due("with three", x.accountWith(3, 1), 4 * 2 + 4 * 3 + 4 + 2);
+    }
+
+    private static void useOne(ShoutGroups x, int i) {
+        if (i % 4 == 3) {
+            x.change(i * 7 % 16, i * i % 5, i);
+        } else {
+            x.read(i * 5 % 16, i * i % 5);
+        }
+    }
+
+    private static void latestSixtyInOrder() {
+        ShoutGroups x = new ShoutGroups();
+        for (int i = 0; i < 150; i++) {
+            useOne(x, i);
+            ShoutGroups latest = new ShoutGroups();
+            for (int k = Math.max(0, i - 59); k <= i; k++) {
+                useOne(latest, k);
+            }
+            check.due("the latest after " + i, x.accountWith(2, 4), latest.count(0));
+        }
+    }
+
+    private static void oneAfterTheOther() {
+        ShoutGroups x = new ShoutGroups();
+        for (int i = 0; i < 40; i++) {
+            useOne(x, i);
+        }
+        int first = x.accountWith(0, 8);
+        check.due("again", x.accountWith(0, 8), first);
+        x.best(0);
+        check.due("after best()", x.accountWith(0, 8), first);
+        check.due("as it was", x.accountWith(2, 4), x.count(0));
     }
 
     private static void latestSixty() {

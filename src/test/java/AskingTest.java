@@ -101,6 +101,16 @@ public final class AskingTest {
         for (int what = 0; what < due.length; what++) {
             check.due("count(" + what + ")", x.count(what), due[what]);
         }
+        x.change(0, 20, 1);
+        check.due("changed ones on the first shelf, too", x.count(4), 3);
+        x.change(15, 21, 1);
+        check.due("and on the last", x.count(4), 4);
+        x.putBack(15, 21);
+        check.due("none where a changed one was", x.count(4), 3);
+        x.recall(7);
+        x.read(3, 0);
+        x.read(4, 0);
+        check.due("the first card GROUPED", x.count(6), 1);
     }
 
     private static void errors() {

@@ -8,6 +8,7 @@ public final class UndoTest {
     public static void main(String[] args) {
         nothingToUndo();
         eachChange();
+        everythingComesBack();
         atMostSix();
         padAndSlotsStay();
         errorsRecordNothing();
@@ -54,6 +55,44 @@ public final class UndoTest {
             check.due("undo() of " + kind, x.undo(), 4);
             check.due("state after undo() of " + kind, Look.state(x), before);
         }
+    }
+
+    /** Readings and changes that leave nothing as it was at first. */
+    private static void keepBusy(ShoutGroups x, int salt) {
+        for (int i = 0; i < 90; i++) {
+            int reader = (i * 7 + salt) % 16;
+            int note = (i * 5 + salt * 3) % 11;
+            if (i % 5 == 4) {
+                x.change(reader, note, 100 * salt + i);
+            } else {
+                x.read(reader, note);
+            }
+            x.read(reader, note);
+        }
+    }
+
+    private static void everythingComesBack() {
+        ShoutGroups x = new ShoutGroups();
+        String atFirst = Look.state(x);
+        x.save(0);
+        x.set(ShoutGroups.NAMES, 1);
+        x.set(ShoutGroups.SIZE, 3);
+        x.set(ShoutGroups.ROOM, 4);
+        x.set(ShoutGroups.FORGET, 1);
+        keepBusy(x, 1);
+        String busy = Look.state(x);
+        x.save(1);
+        check.due("restore(0)", x.restore(0), 0);
+        check.due("as at first", Look.state(x), atFirst);
+        keepBusy(x, 2);
+        x.restore(1);
+        check.due("restore(1)", Look.state(x), busy);
+        x.restore(0);
+        x.undo();
+        check.due("undo() of restore(0)", Look.state(x), busy);
+        x.account();
+        x.undo();
+        check.due("undo() of account()", Look.state(x), busy);
     }
 
     private static void atMostSix() {

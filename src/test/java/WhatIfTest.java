@@ -52,6 +52,11 @@ public final class WhatIfTest {
         check.due("an owner to call", x.costOfChange(8, 1, 0), 4);
         x.set(ShoutGroups.ROOM, 1);
         check.due("room to make", x.costOfChange(9, 2, 0), 3);
+        x.set(ShoutGroups.ROOM, 8);
+        x.set(ShoutGroups.FORGET, 1);
+        check.due("a shelf far from full", x.costOfChange(0, 5, 0), 2);
+        x.set(ShoutGroups.FORGET, 0);
+        x.set(ShoutGroups.ROOM, 1);
         check.due("a full shelf with the copy itself", x.costOfChange(0, 0, 0), 3);
     }
 
@@ -89,6 +94,14 @@ public final class WhatIfTest {
         x.read(15, 20);
         check.due("groups are louder", x.loudest(0), 20);
         check.due("five in vain, less one", x.loudest(1), 4);
+        for (int reader = 0; reader < 16; reader += 4) {
+            x.read(reader, 0);
+            x.read(reader, 23);
+        }
+        check.due("the lowest note", x.loudest(0), 0);
+        check.due("twelve in vain, less one", x.loudest(1), 11);
+        x.recall(0);
+        check.due("the highest note", x.loudest(0), 23);
     }
 
     private static void loudestOfNone() {
