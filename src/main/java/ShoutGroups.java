@@ -529,7 +529,10 @@ public final class ShoutGroups {
                 return;
             }
             int others = names.at(note) & ~only(reader);
-            become(note, others == 0 ? BLANK : kinds.at(note), others);
+            names.write(note, others);
+            if (others == 0) {
+                kinds.write(note, BLANK);
+            }
         }
 
         int howManyInUse() {
