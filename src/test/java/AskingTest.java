@@ -32,6 +32,10 @@ public final class AskingTest {
         row("GROUPED", x, 23, 99, 2, 5, 0xc07f, 1 << 14 | 4, 7, 99, 1, 0);
         x.change(2, 23, 100);
         row("OWNED again", x, 23, 99, 3, 4, 4, 4, 0, 100, 2, 8);
+        x.change(0, 0, 7);
+        row("OWNED by the first", x, 0, 0, 3, 1, 1, 1, 0, 7, 0, 0);
+        x.change(15, 0, 8);
+        row("OWNED by the last", x, 0, 7, 3, 1 << 15, 1 << 15, 1 << 15, 0, 8, 1, 0);
     }
 
     private static void onShelf() {

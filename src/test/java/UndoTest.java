@@ -59,10 +59,10 @@ public final class UndoTest {
 
     /** Readings and changes that leave nothing as it was at first. */
     private static void keepBusy(ShoutGroups x, int salt) {
-        for (int i = 0; i < 90; i++) {
+        for (int i = 0; i < 90 + salt; i++) {
             int reader = (i * 7 + salt) % 16;
             int note = (i * 5 + salt * 3) % 11;
-            if (i % 5 == 4) {
+            if ((i + salt) % 5 == 4) {
                 x.change(reader, note, 100 * salt + i);
             } else {
                 x.read(reader, note);
