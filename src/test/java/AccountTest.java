@@ -19,7 +19,7 @@ public final class AccountTest {
     }
 
     private static void otherNamesAndSizes() {
-        ShoutGroups x = new ShoutGroups();
+        Told x = new Told();
         x.read(0, 0);
         x.read(4, 0);
         x.read(8, 0);
@@ -33,7 +33,7 @@ public final class AccountTest {
     }
 
     private static void roomAndForgetAsNow() {
-        ShoutGroups x = new ShoutGroups();
+        Told x = new Told();
         x.read(0, 0);
         x.read(0, 1);
         x.read(0, 0);
@@ -45,7 +45,7 @@ public final class AccountTest {
     }
 
     private static void leftOut() {
-        ShoutGroups x = new ShoutGroups();
+        Told x = new Told();
         x.read(0, 0);
         x.putBack(0, 0);
         x.read(0, 0);
@@ -59,7 +59,7 @@ public final class AccountTest {
     }
 
     private static void best() {
-        ShoutGroups x = new ShoutGroups();
+        Told x = new Told();
         check.due("nothing in it: NAMES", x.best(0), 0);
         check.due("nothing in it: SIZE", x.best(1), 1);
         check.due("nothing in it: messages", x.best(2), 0);
@@ -76,7 +76,7 @@ public final class AccountTest {
     }
 
     private static void fourNames() {
-        ShoutGroups x = new ShoutGroups();
+        Told x = new Told();
         x.set(ShoutGroups.FORGET, 1);
         x.set(ShoutGroups.ROOM, 1);
         for (int reader = 0; reader < 4; reader++) {
@@ -91,7 +91,7 @@ public final class AccountTest {
         check.due("with three", x.accountWith(3, 1), 4 * 2 + 4 * 3 + 4 + 2);
     }
 
-    private static void useOne(ShoutGroups x, int i) {
+    private static void useOne(Told x, int i) {
         if (i % 4 == 3) {
             x.change(i * 7 % 16, i * i % 5, i);
         } else {
@@ -100,10 +100,10 @@ public final class AccountTest {
     }
 
     private static void latestSixtyInOrder() {
-        ShoutGroups x = new ShoutGroups();
+        Told x = new Told();
         for (int i = 0; i < 150; i++) {
             useOne(x, i);
-            ShoutGroups latest = new ShoutGroups();
+            Told latest = new Told();
             for (int k = Math.max(0, i - 59); k <= i; k++) {
                 useOne(latest, k);
             }
@@ -112,7 +112,7 @@ public final class AccountTest {
     }
 
     private static void oneAfterTheOther() {
-        ShoutGroups x = new ShoutGroups();
+        Told x = new Told();
         for (int i = 0; i < 40; i++) {
             useOne(x, i);
         }
@@ -124,7 +124,7 @@ public final class AccountTest {
     }
 
     private static void latestSixty() {
-        ShoutGroups x = new ShoutGroups();
+        Told x = new Told();
         x.read(0, 0);
         for (int i = 0; i < 59; i++) {
             x.read(1, 1);
@@ -142,7 +142,7 @@ public final class AccountTest {
     }
 
     private static void startedAnew() {
-        ShoutGroups x = new ShoutGroups();
+        Told x = new Told();
         x.read(0, 0);
         x.change(1, 0, 1);
         String shelves = x.ofReader(1, 0) + " " + x.count(0);
@@ -160,14 +160,14 @@ public final class AccountTest {
     }
 
     private static void ordersAreInIt() {
-        ShoutGroups x = new ShoutGroups();
+        Told x = new Told();
         Look.put(x, "r0:0;w1:0=3;c0;r2:0;b2:0;r16:0");
         check.due("carryOut()", x.carryOut(), 5);
         check.due("account()", x.account(), 3);
     }
 
     private static void nothingChanges() {
-        ShoutGroups x = new ShoutGroups();
+        Told x = new Told();
         x.read(0, 0);
         x.change(1, 1, 1);
         String before = Look.everything(x);
@@ -177,7 +177,7 @@ public final class AccountTest {
     }
 
     private static void errors() {
-        ShoutGroups x = new ShoutGroups();
+        Told x = new Told();
         for (int bad : new int[] {-1, 5, Integer.MIN_VALUE, Integer.MAX_VALUE}) {
             check.due("accountWith(" + bad + ", 1)", x.accountWith(bad, 1), ShoutGroups.BAD_VALUE);
         }

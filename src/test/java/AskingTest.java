@@ -11,14 +11,14 @@ public final class AskingTest {
         check.end();
     }
 
-    private static void row(String name, ShoutGroups x, int note, int... due) {
+    private static void row(String name, Told x, int note, int... due) {
         for (int what = 0; what < due.length; what++) {
             check.due(name + ": ofNote(" + note + ", " + what + ")", x.ofNote(note, what), due[what]);
         }
     }
 
     private static void ofNote() {
-        ShoutGroups x = new ShoutGroups();
+        Told x = new Told();
         x.set(ShoutGroups.SIZE, 7);
         row("BLANK", x, 23, 0, 0, 0, 0, 0, 0, 0, 0, 0);
         x.change(14, 23, 99);
@@ -39,7 +39,7 @@ public final class AskingTest {
     }
 
     private static void onShelf() {
-        ShoutGroups x = new ShoutGroups();
+        Told x = new Told();
         x.change(6, 1, 10);
         x.change(0, 2, 20);
         x.putBack(0, 2);
@@ -59,7 +59,7 @@ public final class AskingTest {
     }
 
     private static void ofReader() {
-        ShoutGroups x = new ShoutGroups();
+        Told x = new Told();
         x.set(ShoutGroups.SIZE, 3);
         x.set(ShoutGroups.NAMES, 1);
         check.due("group of 15", x.ofReader(15, 1), 5);
@@ -87,7 +87,7 @@ public final class AskingTest {
     }
 
     private static void count() {
-        ShoutGroups x = new ShoutGroups();
+        Told x = new Told();
         x.set(ShoutGroups.FORGET, 1);
         x.set(ShoutGroups.SIZE, 2);
         x.set(ShoutGroups.ROOM, 8);
@@ -118,7 +118,7 @@ public final class AskingTest {
     }
 
     private static void errors() {
-        ShoutGroups x = new ShoutGroups();
+        Told x = new Told();
         x.read(0, 0);
         for (int bad : new int[] {-1, 9, Integer.MIN_VALUE, Integer.MAX_VALUE}) {
             check.due("ofNote(0, " + bad + ")", x.ofNote(0, bad), ShoutGroups.BAD_VALUE);

@@ -21,13 +21,13 @@ public final class HappeningTest {
         check.end();
     }
 
-    private static void card(ShoutGroups x, int note, int kind, int names) {
+    private static void card(Told x, int note, int kind, int names) {
         check.due("card of " + note, x.ofNote(note, 1), kind);
         check.due("names for " + note, x.ofNote(note, 2), names);
     }
 
     private static void readAndUse() {
-        ShoutGroups x = new ShoutGroups();
+        Told x = new Told();
         check.due("read(3, 7)", x.read(3, 7), 0);
         check.due("two messages", x.count(0), 2);
         card(x, 7, NAMED, 1 << 3);
@@ -53,7 +53,7 @@ public final class HappeningTest {
     }
 
     private static void readFromOwner() {
-        ShoutGroups x = new ShoutGroups();
+        Told x = new Told();
         check.due("change(2, 5, 77)", x.change(2, 5, 77), 2);
         check.due("library's value", x.ofNote(5, 0), 0);
         check.due("the owner reads", x.read(2, 5), 77);
@@ -75,7 +75,7 @@ public final class HappeningTest {
 
     private static void writeOnCards() {
         for (int names = 0; names <= 4; names++) {
-            ShoutGroups x = new ShoutGroups();
+            Told x = new Told();
             x.set(ShoutGroups.NAMES, names);
             x.set(ShoutGroups.SIZE, 3);
             int[] readers = {15, 1, 5, 8, 2, 4};
@@ -92,7 +92,7 @@ public final class HappeningTest {
     }
 
     private static void changeAndOwn() {
-        ShoutGroups x = new ShoutGroups();
+        Told x = new Told();
         x.read(1, 0);
         x.read(2, 0);
         check.due("a sharer changes: one called, one asked", x.change(2, 0, 9999), 4);
@@ -119,7 +119,7 @@ public final class HappeningTest {
     }
 
     private static void changeWithGroups() {
-        ShoutGroups x = new ShoutGroups();
+        Told x = new Told();
         x.set(ShoutGroups.NAMES, 1);
         x.set(ShoutGroups.SIZE, 5);
         x.read(0, 4);
@@ -143,7 +143,7 @@ public final class HappeningTest {
     }
 
     private static void roomForChanges() {
-        ShoutGroups x = new ShoutGroups();
+        Told x = new Told();
         x.set(ShoutGroups.ROOM, 2);
         x.change(0, 0, 10);
         x.read(0, 1);
@@ -164,7 +164,7 @@ public final class HappeningTest {
     }
 
     private static void putBackNamed() {
-        ShoutGroups x = new ShoutGroups();
+        Told x = new Told();
         x.read(1, 0);
         x.read(2, 0);
         check.due("without a word", x.putBack(1, 0), 0);
@@ -183,7 +183,7 @@ public final class HappeningTest {
     }
 
     private static void putBackOwned() {
-        ShoutGroups x = new ShoutGroups();
+        Told x = new Told();
         x.read(4, 1);
         x.change(4, 2, 8);
         x.read(4, 3);
@@ -198,7 +198,7 @@ public final class HappeningTest {
     }
 
     private static void putBackGrouped() {
-        ShoutGroups x = new ShoutGroups();
+        Told x = new Told();
         x.set(ShoutGroups.NAMES, 0);
         x.set(ShoutGroups.FORGET, 1);
         x.read(4, 1);
@@ -209,7 +209,7 @@ public final class HappeningTest {
     }
 
     private static void forgottenCopies() {
-        ShoutGroups x = new ShoutGroups();
+        Told x = new Told();
         x.read(0, 0);
         x.putBack(0, 0);
         check.due("a call in vain", x.change(5, 0, 1), 3);
@@ -220,7 +220,7 @@ public final class HappeningTest {
     }
 
     private static void recallNamed() {
-        ShoutGroups x = new ShoutGroups();
+        Told x = new Told();
         x.read(0, 6);
         x.read(9, 6);
         x.putBack(9, 6);
@@ -242,7 +242,7 @@ public final class HappeningTest {
     }
 
     private static void recallGrouped() {
-        ShoutGroups x = new ShoutGroups();
+        Told x = new Told();
         x.set(ShoutGroups.NAMES, 0);
         x.set(ShoutGroups.SIZE, 8);
         x.read(15, 23);
@@ -256,7 +256,7 @@ public final class HappeningTest {
     }
 
     private static void errors() {
-        ShoutGroups x = new ShoutGroups();
+        Told x = new Told();
         x.read(15, 23);
         String before = Look.everything(x);
         for (int bad : new int[] {-1, 16, Integer.MIN_VALUE, Integer.MAX_VALUE}) {

@@ -2,11 +2,13 @@ import java.util.Random;
 
 /** Long runs of calls, each answered by the class and by the model; the same ones every time. */
 public final class ModelTest {
-    private static final int RUNS = 400, CALLS = 512;
+    private static final int RUNS = 1000;
+    // What a step may take at most, and enough for a look at everything without too many objects.
+    private static final int CALLS_KEPT = 100;
     private static final Check check = new Check();
 
     private final Random random;
-    private final ShoutGroups x = new ShoutGroups();
+    private final Told x = new Told();
     private final Model model = new Model();
     private final int readers;
     private final int notes;
@@ -30,17 +32,28 @@ public final class ModelTest {
     }
 
     private void compare() {
-        for (int i = 0; i < CALLS; i++) {
-            int kind = random.nextInt(100);
-            if (kind < 55) {
-                happen();
-            } else if (kind < 80) {
-                ask();
-            } else if (kind < 88) {
-                write();
-            } else {
-                keep();
+        int halfway = Told.CALLS / 4 + random.nextInt(Told.CALLS / 2);
+        boolean isHalfway = false;
+        while (x.callsLeft() > CALLS_KEPT) {
+            step();
+            if (!isHalfway && x.callsLeft() < halfway) {
+                isHalfway = true;
+                askAll();
             }
+        }
+        askAll();
+    }
+
+    private void step() {
+        int kind = random.nextInt(100);
+        if (kind < 65) {
+            happen();
+        } else if (kind < 80) {
+            ask();
+        } else if (kind < 88) {
+            write();
+        } else {
+            keep();
         }
     }
 
@@ -124,27 +137,74 @@ public final class ModelTest {
     }
 
     private void askNote(int note) {
-        for (int what = -1; what <= 9; what++) {
-            due("ofNote(" + note + ", " + what + ")", x.ofNote(note, what), model.ofNote(note, what));
-        }
+        int what = about(9);
+        due("ofNote(" + note + ", " + what + ")", x.ofNote(note, what), model.ofNote(note, what));
     }
 
     private void askReader(int reader) {
-        for (int what = -1; what <= 7; what++) {
-            due("ofReader(" + reader + ", " + what + ")", x.ofReader(reader, what), model.ofReader(reader, what));
-        }
-        for (int place = -1; place <= 8; place++) {
-            for (int what = -1; what <= 3; what++) {
-                due("onShelf(" + reader + ", " + place + ", " + what + ")", x.onShelf(reader, place, what),
-                        model.onShelf(reader, place, what));
-            }
-        }
+        int what = about(7);
+        due("ofReader(" + reader + ", " + what + ")", x.ofReader(reader, what), model.ofReader(reader, what));
+        int place = about(1 + random.nextInt(8));
+        what = about(3);
+        due("onShelf(" + reader + ", " + place + ", " + what + ")", x.onShelf(reader, place, what),
+                model.onShelf(reader, place, what));
     }
 
     private void askCount() {
+        int what = about(13);
+        due("count(" + what + ")", x.count(what), model.count(what));
+    }
+
+    /** Asks everything of other objects after the same calls. */
+    private void askAll() {
+        Told y = x.again();
         for (int what = -1; what <= 13; what++) {
-            due("count(" + what + ")", x.count(what), model.count(what));
+            due("count(" + what + ")", y.count(what), model.count(what));
         }
+        for (int what = -1; what <= 2; what++) {
+            due("loudest(" + what + ")", y.loudest(what), model.loudest(what));
+        }
+        due("fault()", y.fault(), model.fault());
+        for (int note = -1; note <= 24; note++) {
+            y = withCalls(y, 11);
+            for (int what = -1; what <= 9; what++) {
+                due("ofNote(" + note + ", " + what + ")", y.ofNote(note, what), model.ofNote(note, what));
+            }
+        }
+        for (int reader = -1; reader <= 16; reader++) {
+            y = withCalls(y, 49);
+            for (int what = -1; what <= 7; what++) {
+                due("ofReader(" + reader + ", " + what + ")", y.ofReader(reader, what), model.ofReader(reader, what));
+            }
+            for (int place = -1; place <= 8; place++) {
+                for (int what = -1; what <= 2; what++) {
+                    due("onShelf(" + reader + ", " + place + ", " + what + ")", y.onShelf(reader, place, what),
+                            model.onShelf(reader, place, what));
+                }
+            }
+        }
+        askWhatIf(random.nextInt(16), random.nextInt(24));
+    }
+
+    private void askWhatIf(int reader, int note) {
+        Told y = x.again();
+        due("cheapest(" + note + ")", y.cheapest(note), model.cheapest(note));
+        for (int each = 0; each < 16; each++) {
+            due("costOfReading(" + each + ", " + note + ")", y.costOfReading(each, note),
+                    model.costOfReading(each, note));
+        }
+        for (int each = 0; each < 24; each++) {
+            int what = each % 2;
+            due("costOfChange(" + reader + ", " + each + ", " + what + ")", y.costOfChange(reader, each, what),
+                    model.costOfChange(reader, each, what));
+        }
+        int names = random.nextInt(5);
+        int size = 1 + random.nextInt(8);
+        due("accountWith(" + names + ", " + size + ")", y.accountWith(names, size), model.accountWith(names, size));
+    }
+
+    private Told withCalls(Told y, int needed) {
+        return y.callsLeft() >= needed ? y : x.again();
     }
 
     private void write() {

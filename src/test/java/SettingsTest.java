@@ -12,7 +12,7 @@ public final class SettingsTest {
     }
 
     private static void newObject() {
-        ShoutGroups x = new ShoutGroups();
+        Told x = new Told();
         int[] counts = {0, 0, 0, 0, 0, 0, 0, 2, 4, 3, 0, 0, 0};
         for (int what = 0; what < counts.length; what++) {
             check.due("new: count(" + what + ")", x.count(what), counts[what]);
@@ -30,7 +30,7 @@ public final class SettingsTest {
         }
         check.due("new: account()", x.account(), 0);
         check.due("new: wipe()", x.wipe(), 0);
-        ShoutGroups y = new ShoutGroups();
+        Told y = new Told();
         y.read(0, 0);
         check.due("two objects share nothing", x.count(0), 0);
     }
@@ -40,7 +40,7 @@ public final class SettingsTest {
         int[] highest = {4, 8, 8, 1};
         int[] first = {2, 4, 3, 0};
         for (int setting = 0; setting < 4; setting++) {
-            ShoutGroups x = new ShoutGroups();
+            Told x = new Told();
             String before = Look.everything(x);
             for (int bad : new int[] {lowest[setting] - 1, highest[setting] + 1, Integer.MIN_VALUE, Integer.MAX_VALUE}) {
                 check.due("set(" + setting + ", " + bad + ")", x.set(setting, bad), ShoutGroups.BAD_VALUE);
@@ -53,7 +53,7 @@ public final class SettingsTest {
                 previous = value;
             }
         }
-        ShoutGroups x = new ShoutGroups();
+        Told x = new Told();
         for (int setting : new int[] {-1, 4, Integer.MIN_VALUE, Integer.MAX_VALUE}) {
             check.due("set(" + setting + ", 1)", x.set(setting, 1), ShoutGroups.BAD_VALUE);
         }
@@ -61,7 +61,7 @@ public final class SettingsTest {
     }
 
     private static void cardsInUse() {
-        ShoutGroups x = new ShoutGroups();
+        Told x = new Told();
         x.read(0, 23);
         String before = Look.everything(x);
         check.due("NAMES with a card", x.set(ShoutGroups.NAMES, 3), ShoutGroups.NOT_POSSIBLE);
@@ -79,7 +79,7 @@ public final class SettingsTest {
     }
 
     private static void smallerRoom() {
-        ShoutGroups x = new ShoutGroups();
+        Told x = new Told();
         x.read(0, 0);
         x.change(0, 1, 11);
         x.read(0, 2);
@@ -103,7 +103,7 @@ public final class SettingsTest {
     }
 
     private static void isAChange() {
-        ShoutGroups x = new ShoutGroups();
+        Told x = new Told();
         x.set(ShoutGroups.ROOM, 3);
         check.due("set() to the same is a change", x.count(12), 1);
         x.set(ShoutGroups.ROOM, 7);

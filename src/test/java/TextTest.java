@@ -15,7 +15,7 @@ public final class TextTest {
     }
 
     private static void put() {
-        ShoutGroups x = new ShoutGroups();
+        Told x = new Told();
         check.due("put one", x.put('c'), 1);
         check.due("put eight", x.put(Look.pack("4;r1:2;b")), 9);
         check.due("put three", x.put(Look.pack("1:2")), 12);
@@ -30,7 +30,7 @@ public final class TextTest {
     }
 
     private static void putErrors() {
-        ShoutGroups x = new ShoutGroups();
+        Told x = new Told();
         long[] bad = {0, 32, 127, 'c' << 8, 'c' << 16 | 'c', 32 << 8 | 'c', 'c' << 8 | 128, -1, Long.MIN_VALUE,
             Long.MIN_VALUE | 'c', Long.MAX_VALUE, 1L << 56 | 'c', Look.pack("ccccccc") << 8,
             Look.pack("cccccccc") | 1L << 63, Look.pack("cccccccc") & ~(255L << 32), 255L << 24 | 'c'};
@@ -41,7 +41,7 @@ public final class TextTest {
     }
 
     private static void fullPad() {
-        ShoutGroups x = new ShoutGroups();
+        Told x = new Told();
         for (int i = 1; i <= 9; i++) {
             check.due("put " + i, x.put(Look.pack("c1;c1;c1")), 8 * i);
         }
@@ -85,7 +85,7 @@ public final class TextTest {
         check.due("78 characters", Look.faultOf(text.toString()), ShoutGroups.NONE);
         check.due("80 characters", Look.faultOf(text + "00"), ShoutGroups.NONE);
         check.due("80 characters, too short", Look.faultOf(text + ";c"), 80);
-        ShoutGroups x = new ShoutGroups();
+        Told x = new Told();
         StringBuilder reads = new StringBuilder("r0:0");
         while (reads.length() < 79) {
             reads.append(";r0:0");
@@ -103,7 +103,7 @@ public final class TextTest {
     }
 
     private static void carryOut() {
-        ShoutGroups x = new ShoutGroups();
+        Told x = new Told();
         Look.put(x, "w2:3=1234;r5:3;r5:4;b5:4;c3;w7:0=0");
         check.due("carryOut()", x.carryOut(), 6);
         check.due("the pad is empty", x.count(11), 0);
@@ -115,7 +115,7 @@ public final class TextTest {
         check.due("the last one", x.ofNote(0, 1), ShoutGroups.OWNED);
         check.due("messages", x.count(0), 2 + 4 + 2 + 2 + 2);
         check.due("undo()", x.undo(), 0);
-        check.due("all of them are undone", Look.everything(x), Look.everything(new ShoutGroups()));
+        check.due("all of them are undone", Look.everything(x), Look.everything(new Told()));
         Look.put(x, "w15:23=9999");
         check.due("numbers of several digits", x.carryOut(), 1);
         check.due("the value", x.ofNote(23, 6), 9999);
@@ -124,7 +124,7 @@ public final class TextTest {
     private static void upToTheFirstError() {
         String[] failing = {"r16:0", "r0:24", "w16:0=1", "w0:24=1", "b16:0", "b0:24", "b0:0", "c24", "c0", "r9999:9999"};
         for (String order : failing) {
-            ShoutGroups x = new ShoutGroups();
+            Told x = new Told();
             Look.put(x, "r1:5;" + order + ";r2:5");
             check.due("one before " + order, x.carryOut(), 1);
             check.due("not the next one", x.ofReader(2, 2), 0);
@@ -137,7 +137,7 @@ public final class TextTest {
     }
 
     private static void badText() {
-        ShoutGroups x = new ShoutGroups();
+        Told x = new Told();
         check.due("an empty pad", x.carryOut(), ShoutGroups.BAD_TEXT);
         Look.put(x, "r0:0;r");
         String before = Look.everything(x);

@@ -19,15 +19,15 @@ public final class UndoTest {
     }
 
     private static void nothingToUndo() {
-        ShoutGroups x = new ShoutGroups();
+        Told x = new Told();
         check.due("undo()", x.undo(), ShoutGroups.NOT_POSSIBLE);
         x.read(0, 0);
         check.due("undo() of one", x.undo(), 0);
         check.due("undo() again", x.undo(), ShoutGroups.NOT_POSSIBLE);
-        check.due("as at first", Look.everything(x), Look.everything(new ShoutGroups()));
+        check.due("as at first", Look.everything(x), Look.everything(new Told()));
     }
 
-    private static void happen(ShoutGroups x, int kind) {
+    private static void happen(Told x, int kind) {
         switch (kind) {
             case 0: x.set(ShoutGroups.FORGET, 1); break;
             case 1: x.read(1, 3); break;
@@ -42,7 +42,7 @@ public final class UndoTest {
 
     private static void eachChange() {
         for (int kind = 0; kind <= 7; kind++) {
-            ShoutGroups x = new ShoutGroups();
+            Told x = new Told();
             x.read(0, 0);
             x.save(0);
             x.change(3, 3, 5);
@@ -58,7 +58,7 @@ public final class UndoTest {
     }
 
     /** Readings and changes that leave nothing as it was at first. */
-    private static void keepBusy(ShoutGroups x, int salt) {
+    private static void keepBusy(Told x, int salt) {
         for (int i = 0; i < 90 + salt; i++) {
             int reader = (i * 7 + salt) % 16;
             int note = (i * 5 + salt * 3) % 11;
@@ -72,7 +72,7 @@ public final class UndoTest {
     }
 
     private static void everythingComesBack() {
-        ShoutGroups x = new ShoutGroups();
+        Told x = new Told();
         String atFirst = Look.state(x);
         x.save(0);
         x.set(ShoutGroups.NAMES, 1);
@@ -96,7 +96,7 @@ public final class UndoTest {
     }
 
     private static void atMostSix() {
-        ShoutGroups x = new ShoutGroups();
+        Told x = new Told();
         List<String> states = new ArrayList<>();
         for (int i = 0; i < 15; i++) {
             states.add(Look.state(x));
@@ -115,7 +115,7 @@ public final class UndoTest {
     }
 
     private static void padAndSlotsStay() {
-        ShoutGroups x = new ShoutGroups();
+        Told x = new Told();
         x.read(0, 0);
         x.put('c');
         x.save(1);
@@ -130,7 +130,7 @@ public final class UndoTest {
     }
 
     private static void errorsRecordNothing() {
-        ShoutGroups x = new ShoutGroups();
+        Told x = new Told();
         x.read(0, 0);
         x.set(9, 9);
         x.set(0, 1);
@@ -158,7 +158,7 @@ public final class UndoTest {
     }
 
     private static void saving() {
-        ShoutGroups x = new ShoutGroups();
+        Told x = new Told();
         x.set(ShoutGroups.ROOM, 8);
         x.set(ShoutGroups.NAMES, 0);
         x.change(4, 4, 44);
@@ -183,7 +183,7 @@ public final class UndoTest {
     }
 
     private static void restoring() {
-        ShoutGroups x = new ShoutGroups();
+        Told x = new Told();
         check.due("save(0) at first", x.save(0), 0);
         x.read(0, 0);
         x.put('r');
@@ -202,7 +202,7 @@ public final class UndoTest {
     }
 
     private static void errors() {
-        ShoutGroups x = new ShoutGroups();
+        Told x = new Told();
         for (int bad : new int[] {-1, 2, Integer.MIN_VALUE, Integer.MAX_VALUE}) {
             check.due("save(" + bad + ")", x.save(bad), ShoutGroups.BAD_VALUE);
             check.due("restore(" + bad + ")", x.restore(bad), ShoutGroups.BAD_VALUE);

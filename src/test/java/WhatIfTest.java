@@ -14,7 +14,7 @@ public final class WhatIfTest {
     }
 
     private static void reading() {
-        ShoutGroups x = new ShoutGroups();
+        Told x = new Told();
         check.due("a BLANK card", x.costOfReading(0, 0), 2);
         x.change(1, 0, 5);
         check.due("an owner to call", x.costOfReading(0, 0), 4);
@@ -36,7 +36,7 @@ public final class WhatIfTest {
     }
 
     private static void changing() {
-        ShoutGroups x = new ShoutGroups();
+        Told x = new Told();
         x.read(0, 0);
         x.read(1, 0);
         check.due("a sharer", x.costOfChange(0, 0, 0), 4);
@@ -61,7 +61,7 @@ public final class WhatIfTest {
     }
 
     private static void cheapest() {
-        ShoutGroups x = new ShoutGroups();
+        Told x = new Told();
         check.due("all alike", x.cheapest(0), 0);
         x.change(11, 0, 1);
         check.due("the owner", x.cheapest(0), 11);
@@ -75,7 +75,7 @@ public final class WhatIfTest {
     }
 
     private static void loudest() {
-        ShoutGroups x = new ShoutGroups();
+        Told x = new Told();
         x.read(3, 4);
         x.putBack(3, 4);
         check.due("the only one without a copy can change it", x.loudest(0), ShoutGroups.NONE);
@@ -105,7 +105,7 @@ public final class WhatIfTest {
     }
 
     private static void loudestOfNone() {
-        ShoutGroups x = new ShoutGroups();
+        Told x = new Told();
         check.due("loudest(0)", x.loudest(0), ShoutGroups.NONE);
         check.due("loudest(1)", x.loudest(1), ShoutGroups.NONE);
         x.change(0, 0, 1);
@@ -114,27 +114,32 @@ public final class WhatIfTest {
     }
 
     private static void nothingChanges() {
-        ShoutGroups x = new ShoutGroups();
+        Told x = new Told();
         for (int i = 0; i < 20; i++) {
             x.read(i * 7 % 16, i * 5 % 9);
             x.change(i * 3 % 16, i * 5 % 7, i);
         }
-        String before = Look.everything(x);
+        String before = Look.whole(x);
+        Told y = x.again();
         for (int note = 0; note < 24; note++) {
-            x.cheapest(note);
-            for (int reader = 0; reader < 16; reader++) {
-                x.costOfReading(reader, note);
-                x.costOfChange(reader, note, 0);
-                x.costOfChange(reader, note, 1);
-            }
+            y.cheapest(note);
         }
-        x.loudest(0);
-        x.loudest(1);
-        check.due("asking what if", Look.everything(x), before);
+        y.loudest(0);
+        y.loudest(1);
+        check.due("cheapest() and loudest()", Look.whole(y), before);
+        for (int reader = 0; reader < 16; reader++) {
+            Told z = x.again();
+            for (int note = 0; note < 24; note++) {
+                z.costOfReading(reader, note);
+                z.costOfChange(reader, note, 0);
+                z.costOfChange(reader, note, 1);
+            }
+            check.due("what costs " + reader, Look.everything(z), before.substring(0, before.indexOf("\n-- ")));
+        }
     }
 
     private static void errors() {
-        ShoutGroups x = new ShoutGroups();
+        Told x = new Told();
         for (int bad : new int[] {-1, 16, Integer.MIN_VALUE, Integer.MAX_VALUE}) {
             check.due("costOfReading(" + bad + ", 0)", x.costOfReading(bad, 0), ShoutGroups.NO_SUCH);
             check.due("costOfChange(" + bad + ", 0, 2)", x.costOfChange(bad, 0, 2), ShoutGroups.NO_SUCH);
