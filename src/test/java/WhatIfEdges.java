@@ -11,6 +11,7 @@ final class WhatIfEdges {
         nothingChanges();
         reading();
         readingWithRoomToMake();
+        readingNextToFullShelves();
         readingRefused();
         changing();
         changingWithRoomToMake();
@@ -130,6 +131,24 @@ final class WhatIfEdges {
                 takes("eight copies, ROOM " + room, x, 5, 20, due[room - 1]);
                 takes("more than there is room for, the copy is there", x, 5, 1, 0);
             }
+        }
+    }
+
+    /** What lies on other shelves has no part in the room to make on this one. */
+    private static void readingNextToFullShelves() {
+        EdgesTest.sentence(11, "how many messages it would take if a reader read a note now.");
+        for (int forget = 0; forget <= 1; forget++) {
+            Told x = with(2, 4, 8, forget);
+            for (int note = 0; note < 8; note++) {
+                x.change(4, note, 1);
+                x.change(6, note + 8, 1);
+            }
+            takes("an empty shelf", x, 5, 20, 2);
+            check.due("a change", x.costOfChange(5, 20, 0), 2);
+            takes("a full one before", x, 4, 20, 2 + 1);
+            takes("a full one behind", x, 6, 20, 2 + 1);
+            takes("the first shelf", x, 0, 20, 2);
+            takes("the last shelf", x, 15, 20, 2);
         }
     }
 
