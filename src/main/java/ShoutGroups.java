@@ -20,8 +20,9 @@ public final class ShoutGroups {
     private final Library trial = new Library();
     private final History history = new History();
     private final Library[] slots = new Library[SLOTS];
-    private final Pad pad = new Pad();
-    private final Orders orders = new Orders(pad);
+    private final Orders orders = new Orders();
+    // Taken from the orders, not given to them: nothing of an object that is still being made is handed out.
+    private final Pad pad = orders.pad;
 
     public ShoutGroups() {
         // An empty slot is null.
@@ -920,17 +921,13 @@ public final class ShoutGroups {
 
     /** Reads the pad's orders one by one; where one can't be read on, the place stays at what is in the way. */
     private static final class Orders {
-        private final Pad pad;
+        private final Pad pad = new Pad();
         private int place;
         private int number;
         private int kind;
         private int reader;
         private int note;
         private int value;
-
-        Orders(Pad pad) {
-            this.pad = pad;
-        }
 
         int findFault() {
             place = 0;

@@ -84,12 +84,22 @@ public final class LanguageTest {
                         isStatic && !Modifier.isFinal(field.getModifiers()) ? 1 : 0, 0);
             }
             check.due("more than twenty fields in " + each, fields > 20 ? 1 : 0, 0);
+            for (Constructor<?> constructor : each.getDeclaredConstructors()) {
+                handsOutNothing(constructor);
+            }
             for (Method method : each.getDeclaredMethods()) {
                 check.due("more than seven parameters: " + method, method.getParameterCount() > 7 ? 1 : 0, 0);
                 check.due("an own method with a public one's name: " + method, isOwn(method)
                         && publicNames.contains(method.getName()) ? 1 : 0, 0);
                 check.due("made by the compiler: " + method, method.isSynthetic() ? 1 : 0, 0);
             }
+        }
+    }
+
+    /** Rule 12: what a constructor is given can't be a part of an object that is still being made, if it is a number. */
+    private static void handsOutNothing(Constructor<?> constructor) {
+        for (Class<?> type : constructor.getParameterTypes()) {
+            check.due(constructor + " is given an object", type.isPrimitive() ? 0 : 1, 0);
         }
     }
 
